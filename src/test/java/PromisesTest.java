@@ -146,7 +146,9 @@ public final class PromisesTest {
         due("far beyond", x.posts(1, TOO_GREAT, 9), 0);
         due("ahead of the row", x.posts(1, -1, 9), 0);
         due("two of three", x.posts(1, 7, 1), 0);
-        due("how many", x.count(0), 3);
+        due("the last three", x.posts(1, 6, 9), 1);
+        due("its VALUE", x.of(3, 2), 4);
+        due("how many", x.count(0), 4);
         fill(x, 2, 0, 1, 1, 1, 16, 1, 1, 1, 1, 1);
         due("one is not so", x.posts(2, 0, 3), 1);
         fill(x, 2, 0, 1, 1, 10);
@@ -154,7 +156,7 @@ public final class PromisesTest {
         fill(x, 2, 0, 1, -1, 1);
         due("Y is not so", x.posts(2, 0, 1), 0);
         x.row(3, 0, 60);
-        due("full", x.posts(3, 0, 9), 5);
+        due("full", x.posts(3, 0, 9), 4);
         due("still full", x.posts(3, 0, 1), 0);
         allBad("posts", x.posts(-1, 0, 1), x.posts(6, 0, 1), x.posts(1, 0, 0), x.posts(1, 0, 10), x.posts(0, 0, -1));
         x.row(4, 1, 9);
@@ -381,6 +383,12 @@ public final class PromisesTest {
         due("to minute 999", far.first(0, 3), 945);
         fill(far, 0, 0, 0, 1, 0, 4);
         due("at minute 972", far.first(0, 4), 972);
+        far.mend(0, 7, 0);
+        far.mend(4, 0, 0);
+        far.mend(4, 1, 9);
+        due("at minute 999", far.first(0, 4), 999);
+        far.mend(4, 1, 8);
+        due("at minute 1008", far.first(0, 4), NOT);
     }
 
     private static void by() {
@@ -472,12 +480,30 @@ public final class PromisesTest {
         due("hour 2", x.red(0, 2), 12);
         due("hour 3", x.red(0, 3), 11);
         allBad("red", x.red(0, -1), x.red(0, 16), x.red(6, 0), x.red(-1, 0));
-        NineKeysRound edge = yard(1515);
+        NineKeysRound edge = yard(1515, 0);
         edge.mend(0, 6, 2);
-        fill(edge, 0, 0, 0);
+        edge.mend(0, 7, 0);
+        fill(edge, 0, 0, 0, 1);
+        // 60, 120, 180, ..
+        due("none ahead of it", edge.red(0, 0), 3);
+        due("a dent in its first minute", edge.red(0, 1), 2);
+        due("the other one's", edge.red(0, 2), 1);
+        edge.mend(0, 6, 1);
         edge.mend(0, 7, 9);
-        due("a dent in its first minute", edge.red(0, 1), 0);
-        due("none ahead of it", edge.red(0, 0), 1);
+        edge.mend(0, 4, 10);
+        edge.mend(0, 5, 10);
+        fill(edge, 0, 0, 1, 0);
+        // 20, 59, 98, 137.
+        due("a dent in the minute ahead", edge.red(0, 1), 1);
+        due("a dent in the last minute", edge.red(0, 0), 0);
+        edge.mend(0, 4, 0);
+        edge.mend(0, 5, 0);
+        edge.mend(0, 6, 9);
+        edge.mend(0, 7, 7);
+        fill(edge, 0, 0, 0, 1);
+        // 270, 547, 824.
+        due("a dent behind it", edge.red(0, 8), 3);
+        due("a dent within it", edge.red(0, 9), 1);
     }
 
     private static void gap() {
@@ -495,6 +521,10 @@ public final class PromisesTest {
         x.mend(0, 7, 0);
         due("a turn of 0 minutes", x.gap(0, 0), 28);
         due("not in it", x.gap(0, 1), NOT);
+        NineKeysRound still = yard(0);
+        still.mend(0, 7, 9);
+        fill(still, 0, 0, 0);
+        due("the same one again", still.gap(0, 0), 9);
         allBad("gap", x.gap(0, 3), x.gap(0, -1), x.gap(6, 0), x.gap(-1, 0));
         NineKeysRound far = yard(1515, 0);
         far.mend(0, 6, 9);
@@ -606,6 +636,8 @@ public final class PromisesTest {
         due("evenly", x.two(0, 1, 8), 9);
         due("best", x.two(0, -1, 0), 8);
         due("the o told does not matter", x.two(0, -1, TOO_SMALL), 8);
+        fill(x, 1, 0, 0);
+        due("of like ones the least", x.two(1, -1, 0), 0);
         // Dents of 1 from minute 7 on: 13, 23, 30, ..; that in 6 does not count.
         due("from minute o on", x.two(0, 1, 7), 10);
         x.post(1515);
@@ -629,6 +661,19 @@ public final class PromisesTest {
         // Post 2 is dented first in minute 972: its second comes within 999 up to 27 minutes later.
         due("the second in minute 999", late.two(0, 2, 27), 27);
         due("the second too late", late.two(0, 2, 28), NOT);
+        NineKeysRound soon = yard(1515, 0, 707);
+        soon.mend(0, 6, 7);
+        soon.mend(0, 7, 9);
+        fill(soon, 0, 0, 2, 0, 1, 0, 1, 0);
+        // Post 2 is dented in minute 98, and 1118 later.
+        due("the first in minute o", soon.two(0, 2, 98), 98);
+        due("the first ahead of it", soon.two(0, 2, 99), NOT);
+        NineKeysRound bunch = yard(0, 1515, 0);
+        bunch.mend(0, 6, 8);
+        bunch.mend(0, 7, 2);
+        fill(bunch, 0, 0, 0, 0, 0, 0, 0, 0, 0, 0, 0, 0, 0, 0, 0, 0, 0, 1, 2, 1);
+        // Post 0 is dented in 0, 2, .. 28, then in 996, 998.
+        due("a gap near the end", bunch.two(0, 0, 0), 968);
     }
 
     private static void success() {
@@ -662,6 +707,19 @@ public final class PromisesTest {
         due("how likely BACK", x.bestMinute(0, 0, 717, 1), 5);
         due("for 19 never", x.bestMinute(0, 0, 719, 0), 0);
         due("how likely never", x.bestMinute(0, 0, 719, 1), 0);
+        NineKeysRound near = yard(0, 1);
+        near.mend(0, 4, 1);
+        fill(near, 0, 0, 0, 1);
+        // Forth post 0 is seen in 1, 5, 9; BACK in 2, 6, 10.
+        due("of like ones the first", near.bestMinute(0, 0, 603, 0), 2);
+        due("how likely for 3", near.bestMinute(0, 0, 603, 1), 6);
+        due("BACK is likelier", near.bestMinute(0, 0, 503, 0), 3);
+        due("how likely BACK for 3", near.bestMinute(0, 0, 503, 1), 7);
+        NineKeysRound once = yard(0);
+        once.mend(0, 7, 0);
+        fill(once, 0, 0, 0);
+        due("minute 1", once.bestMinute(0, 0, 605, 0), 1);
+        due("surely", once.bestMinute(0, 0, 605, 1), 12);
         allBad("bestMinute", x.bestMinute(0, 3, 1, 0), x.bestMinute(0, -1, 1, 0), x.bestMinute(0, 0, 0, 0), x.bestMinute(0, 0, 1301, 0),
             x.bestMinute(0, 0, -1, 0), x.bestMinute(0, 0, 1, 2), x.bestMinute(0, 0, 1, -1), x.bestMinute(6, 0, 1, 0));
     }
@@ -709,6 +767,9 @@ public final class PromisesTest {
         x.mend(0, 6, 2);
         x.mend(0, 7, 0);
         paperDue(x, NOT, 1, 1, 0, 0, 4, 1, 11, 1, 11);
+        NineKeysRound here = yard(0);
+        paperDue(here, 0, 0, NOT, 1, 0);
+        paperDue(here, 1, 0, NOT, 1, 0, 0, 0);
         allBad("paper", x.paper(3, 4), x.paper(3, -1), x.paper(6, 0), x.paper(-1, 0), x.paper(5, 4));
         due("bytes", x.paper(0, 0), -12);
         due("nothing", x.paper(5, 0), -11);
@@ -737,6 +798,7 @@ public final class PromisesTest {
         fill(x, 1, 0);
         due("no POSTS", x.which(13), 0);
         allBad("which", x.which(-1), x.which(60), x.which(6), x.which(9), x.which(69), x.which(TOO_SMALL));
+        due("one shelf for both", x.which(0), -12);
         due("no paper", x.which(5), -11);
         due("no round", x.which(53), -11);
         due("no round, and no shorts", x.which(50), -11);
@@ -749,6 +811,23 @@ public final class PromisesTest {
         due("to minute 1999", far.which(1), 1);
         fill(far, 1, 1, 0, 270, 1, 541, 0, 812, 1, 1083, 0, 1354, 1, 1625, 0, 1896, 1, 2167);
         due("beyond minute 1999", far.which(1), 0);
+        far.mend(0, 4, 15);
+        far.mend(0, 5, 6);
+        far.mend(0, 7, 4);
+        fill(far, 1, 1, 0, 81, 1, 355, 0, 629, 1, 903, 0, 1177, 1, 1451, 0, 1725, 1, 1999);
+        due("in minute 1999", far.which(1), 1);
+        far.mend(0, 5, 9);
+        far.mend(0, 7, 8);
+        fill(far, 1, 1, 0, 54, 1, 332, 0, 610, 1, 888, 0, 1166, 1, 1444, 0, 1722, 1, 2000);
+        due("in minute 2000", far.which(1), 0);
+        fill(far, 1, 1, 0, 54, 1, 332, 0, 610, 1, 888, 0, 1166, 1, 1444, 0, 1722);
+        due("but for that", far.which(1), 1);
+        NineKeysRound here = yard(0);
+        fill(here, 0, 0, 0);
+        fill(here, 1, 1, 0, 0, 0, 1, 0, 2);
+        due("one POST alone", here.which(1), 3);
+        fill(here, 1, 1, 0);
+        due("its minute lacks", here.which(1), 0);
     }
 
     private static void fit() {
@@ -836,6 +915,9 @@ public final class PromisesTest {
         x.mend(0, 7, 0);
         due("by PACE, STAND", x.drawn(3, 11, 0), 30);
         due("one post", drawnByOne(0, 309), 30 * (5 + 9));
+        NineKeysRound here = yard(0);
+        here.mend(0, 7, 0);
+        due("no minutes", here.drawn(0, 309, 1), 0);
         due("no POSTS", new NineKeysRound().drawn(7, 309, 0), 0);
         due("no night", new NineKeysRound().drawn(7, 309, 1), 0);
         allBad("drawn", x.drawn(0, 10, 0), x.drawn(0, 9, 0), x.drawn(0, 0, 0), x.drawn(0, -11, 0), x.drawn(0, 311, 0), x.drawn(0, 300, 0),
@@ -865,6 +947,10 @@ public final class PromisesTest {
         due("more than 9999", late.walk(0), STATE);
         due("nothing changes", late.of(0, 8), 1);
         due("NOW stays", late.led(4), 9999);
+        NineKeysRound far = yard(9);
+        for (int i = 0; i < 11; i++) far.waits(i < 10 ? 999 : 5);
+        due("the way is too long", far.walk(0), STATE);
+        due("nothing was walked", far.led(0), 0);
         NineKeysRound gate = yard(2);
         gate.mend(0, 4, 15);
         due("where the gate is then", gate.walk(0), 14);
@@ -990,6 +1076,25 @@ public final class PromisesTest {
         due("DUE", x.of(0, 3), 3);
         for (int i = 39; i >= 0; i--) due("redo 40", x.redo(), i);
         due("DUE again", x.of(0, 3), 43);
+        undoOfManyPlaces();
+    }
+
+    /** 45 changes, by turns of DUE and of the gate's X, of which the first five are kept no more. */
+    private static void undoOfManyPlaces() {
+        NineKeysRound x = yard(0);
+        for (int i = 1; i <= 45; i++) x.mend(0, i % 2 == 0 ? 3 : 4, i % 2 == 0 ? 100 + i : 1 + i % 3);
+        for (int i = 45; i > 5; i--) {
+            x.undo();
+            due("DUE behind undo " + i, x.of(0, 3), 100 + (i - 1) / 2 * 2);
+            due("gate X behind undo " + i, x.of(0, 4), 1 + (i % 2 == 0 ? i - 1 : i - 2) % 3);
+        }
+        due("no more", x.undo(), STATE);
+        for (int i = 6; i <= 45; i++) {
+            x.redo();
+            due("DUE behind redo " + i, x.of(0, 3), 100 + i / 2 * 2);
+            due("gate X behind redo " + i, x.of(0, 4), 1 + (i % 2 == 0 ? i - 1 : i) % 3);
+        }
+        due("no more", x.redo(), STATE);
     }
 
     private static void body() {
@@ -1157,6 +1262,10 @@ public final class PromisesTest {
         due("a KEY", x.shift(3, 0, 0, 0, 1), -12);
         due("to a KEY", x.shift(0, 0, 3, 0, 1), -12);
         due("two KEYS", x.shift(3, 0, 3, 0, 0), -12);
+        x.row(5, 2, 4);
+        x.keep(5, 0);
+        due("a KEY where a row of the sort was", x.shift(5, 0, 0, 0, 0), -12);
+        due("to a KEY where a row of the sort was", x.shift(0, 0, 5, 0, 0), -12);
         due("nothing", x.shift(4, 0, 0, 0, 1), -11);
         due("to nothing", x.shift(0, 0, 4, 0, 1), -11);
         due("-11 ahead of -12", x.shift(3, 0, 4, 0, 1), -11);

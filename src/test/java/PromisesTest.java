@@ -1,22 +1,6 @@
 /** For each promise of the document: ordinary inputs, its edges, wrong inputs; the answers are reckoned by hand. */
-public final class PromisesTest {
-    private static final int BAD = -1, NOT = -2, FULL = -3, STATE = -5;
-    private static final int TOO_GREAT = Integer.MAX_VALUE, TOO_SMALL = Integer.MIN_VALUE;
-    private static int wrong;
-    private static String promise = "";
-
+public final class PromisesTest extends Checks {
     private PromisesTest() {
-    }
-
-    private static void due(String what, long got, long want) {
-        if (got != want) {
-            wrong++;
-            System.out.println(promise + ": " + what + " answered " + got + ", due is " + want);
-        }
-    }
-
-    private static void allBad(String what, int... answers) {
-        for (int i = 0; i < answers.length; i++) due(what + ", wrong input " + i, answers[i], BAD);
     }
 
     public static void main(String[] args) {
@@ -67,32 +51,7 @@ public final class PromisesTest {
         taken();
         count();
         roundRefusals();
-        System.out.println(wrong == 0 ? "all promises hold" : wrong + " answers are not as due");
-        if (wrong != 0) System.exit(1);
-    }
-
-    /** A yard with posts at the cells told as 100 Y and X. */
-    private static NineKeysRound yard(int... cells) {
-        NineKeysRound x = new NineKeysRound();
-        for (int xy : cells) x.post(xy);
-        return x;
-    }
-
-    private static void fill(NineKeysRound x, int shelf, int sort, int... elements) {
-        x.row(shelf, sort, elements.length);
-        for (int i = 0; i < elements.length; i++) x.put(shelf, i, elements[i]);
-    }
-
-    /** Posts 0, 1, 2 at X 2, 5, 5 and Y 0, 0, 4; on shelf 0 the round 0, 1, 2: dents at 2, 6, 11, 19, 23, 28, .. */
-    private static NineKeysRound three() {
-        NineKeysRound x = yard(2, 5, 405);
-        fill(x, 0, 0, 0, 1, 2);
-        return x;
-    }
-
-    private static int law(NineKeysRound x, String text) {
-        for (int i = 0; i < text.length(); i++) x.feed(text.charAt(i));
-        return x.law();
+        end("all promises hold");
     }
 
     private static void newObject() {

@@ -65,6 +65,10 @@ final class EdgesOfLaw extends Edges {
             gives("0?2", 0);
             fault("?1", 0);
             fault("1?", 2);
+            gives("1?0|2", 1);
+            gives("0|2?7", 7);
+            gives("1?((((((7))))))", 7);
+            fault("1?(((((((7", 8);
             fault("1??1", 2);
             fault("1?2?3", 3);
             fault("(1?2)", 2);
@@ -75,12 +79,26 @@ final class EdgesOfLaw extends Edges {
             gives("0?1;2?3;4", 3);
             gives("0;5", 0);
             gives("1?0;5", 0);
+            linesOfEveryLength();
         });
+    }
+
+    /** The line that counts, and the one that does not, in all lengths: where the next one begins must not matter. */
+    private static void linesOfEveryLength() {
+        for (int n = 0; n < 50; n++) {
+            String zeros = "0+".repeat(n);
+            gives("1?" + zeros + "1;9", 1);
+            gives("1?" + zeros + "!0;9", 1);
+            gives("1?" + zeros + "!!1;9", 1);
+            gives("0?" + zeros + "1;9", 9);
+        }
     }
 
     private static void terms() {
         edge("part 1", "E = A { | A }", () -> {
             gives("0|0|3", 1);
+            gives("(0|3)*7", 7);
+            gives("-(0|3)+8", 7);
             gives("0|0", 0);
             fault("1|", 2);
             fault("|1", 0);

@@ -40,7 +40,19 @@ final class EdgesOfPapers extends Edges {
             due("two more", x.success(0, 0, 20, 617), 0);
             fill(x, 0, 0);
             due("99 where nobody comes", x.success(0, 0, 599, 699), 12);
+            NineKeysRound wide = freeFor99();
+            due("99 forth alone", wide.success(0, 0, 63, 599), 5);
+            due("99 BACK alone", wide.success(0, 0, 54, 599), 7);
+            due("99 forth alone, likelier", wide.success(0, 0, 63, 799), 7);
+            due("a minute later", wide.success(0, 0, 64, 599), 0);
         });
+    }
+
+    /** Post 0 is unseen for 99 minutes at most: forth from 63, 171, .. on, BACK from 54, 162, .. on. */
+    private static NineKeysRound freeFor99() {
+        NineKeysRound x = paced(3, 9, 15, 0);
+        fill(x, 0, 0, 1, 0);
+        return x;
     }
 
     /**
@@ -63,6 +75,16 @@ final class EdgesOfPapers extends Edges {
             due("never", later.bestMinute(0, 0, 632, 1), 0);
             NineKeysRound x = three();
             due("all are like", bestWhereNobodyComes(), 0);
+            NineKeysRound wide = freeFor99();
+            due("BACK alone", wide.bestMinute(0, 0, 599, 0), 54);
+            due("likelier than forth", wide.bestMinute(0, 0, 599, 1), 7);
+            due("forth alone", wide.bestMinute(0, 0, 799, 0), 63);
+            due("likelier than BACK", wide.bestMinute(0, 0, 799, 1), 7);
+            // Each way he is at post 0 in 26, 78, .., 598, 650: a minute more than he is away, from 599 on, too.
+            NineKeysRound tight = paced(1, 0, 1115, 0);
+            fill(tight, 0, 0, 1, 0);
+            allDue("the last minute of 52 is SEEN", 0, tight.bestMinute(0, 0, 52, 1), tight.bestMinute(0, 0, 1252, 1), tight.bestMinute(0, 0, 52, 0));
+            allDue("51 are free", 27, tight.bestMinute(0, 0, 51, 0), tight.bestMinute(0, 0, 1251, 0));
             due("of like ones", x.bestMinute(0, 0, 615, 0), 3);
             due("as likely", x.bestMinute(0, 0, 615, 1), 12);
         });
@@ -198,6 +220,15 @@ final class EdgesOfPapers extends Edges {
             due("the first is left out", x.which(1), 0);
             fill(x, 1, 1, 0, 2, 1);
             due("one lacks", x.which(1), 0);
+            due("one lacks, by an order", x.fit(1, -1), 0);
+            NineKeysRound still = paced(1, 0, 0);
+            fill(still, 0, 0, 0);
+            fill(still, 1, 1, 0, 0, 0, 0, 0);
+            due("one lacks where no minute goes by", still.which(1), 0);
+            due("nor by an order", still.fit(1, -1), 0);
+            still.row(1, 1, 60);
+            due("thirty in one minute", still.which(1), 3);
+            due("thirty by an order", still.fit(1, -1), 1);
             fill(x, 2, 0);
             fill(x, 1, 1, 0, 2);
             due("nobody goes", x.which(21), 0);
@@ -222,6 +253,10 @@ final class EdgesOfPapers extends Edges {
             NineKeysRound same = yard(0, 0, 0);
             fill(same, 0, 1, 1, 0);
             due("in one cell", same.fit(0, -1), 2);
+            fill(same, 0, 1, 1, 0, 1, 1);
+            due("a POST twice", same.fit(0, -1), 0);
+            fill(same, 0, 1, 2, 0, 0, 1, 1, 2, 2, 3);
+            due("round to the first again", same.fit(0, -1), 1);
         });
         edge("part 3", "the first by numbers: its k-th POST; NOT", () -> {
             NineKeysRound x = three();

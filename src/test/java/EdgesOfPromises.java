@@ -121,6 +121,10 @@ final class EdgesOfPromises extends Edges {
             due("the law that was", x.lost(0, 0, 0, 0), 7);
             due("an empty tape again", x.law(), -100);
             due("the law that was, still", x.lost(0, 0, 0, 0), 7);
+            law(x, "m");
+            due("by the minute", x.lost(0, 0, 5, 5), 5);
+            due("a fault at once", law(x, "x"), -100);
+            due("by the minute, still", x.lost(0, 0, 6, 6), 6);
             due("the greatest fault", law(x, "1+".repeat(60)), -220);
             due("a shorter law behind a longer one", law(x, "9"), 1);
             due("that alone", x.lost(0, 0, 0, 0), 9);

@@ -187,6 +187,8 @@ final class EdgesOfRounds extends Edges {
             NineKeysRound same = yard(3, 3, 3);
             for (int k = 0; k < 3; k++) due("in one cell", same.shortest(7, k), k);
             due("of two of them", same.shortest(6, 0), 1);
+            same.mend(0, 7, 0);
+            for (int k = 0; k < 3; k++) due("in one cell without STANDING", same.shortest(7, k), k);
             // Round a square either way: the way that begins with the lesser number.
             NineKeysRound square = yard(400, 404, 4);
             for (int k = 0; k < 3; k++) due("either way round", square.shortest(7, k), k);
@@ -270,9 +272,15 @@ final class EdgesOfRounds extends Edges {
             fill(soon, 0, 0, 2, 0, 1, 0, 1, 0);
             // Post 2 is dented in minute 98, and not again till 999.
             due("the first in minute o", soon.two(0, 2, 98), 98);
+            due("of another one, in 219 and 657", soon.two(0, 0, 0), 438);
             due("the first ahead of it", soon.two(0, 2, 99), NOT);
             soon.post(0);
             due("not in the ROUND", soon.two(0, 3, 0), NOT);
+            NineKeysRound still = paced(1, 0, 3);
+            fill(still, 0, 0, 0);
+            // All dents of the first in minute 3, all of the second o later.
+            due("those of both", still.two(0, 0, 3), 3);
+            due("those of the second alone", still.two(0, 0, 4), 0);
         });
         edge("part 2", "(those NOT do not count) is least (of like ones the least; 0, if none counts)", () -> {
             NineKeysRound x = paced(9, 9, 1515, 0, 1500);
@@ -283,6 +291,9 @@ final class EdgesOfRounds extends Edges {
             due("of like ones", even.two(0, -1, 0), 8);
             fill(even, 0, 0, 0);
             due("all are like", even.two(0, -1, 99), 0);
+            NineKeysRound near = paced(1, 0, 0, 1);
+            fill(near, 0, 0, 0, 1);
+            due("1 is best where a turn is 2", near.two(0, -1, 0), 1);
             fill(even, 0, 0);
             due("none counts", even.two(0, -1, 50), 0);
             due("no POSTS", noPostsTwo(), 0);

@@ -232,6 +232,8 @@ final class EdgesOfPapers extends Edges {
             fill(x, 2, 0);
             fill(x, 1, 1, 0, 2);
             due("nobody goes", x.which(21), 0);
+            fill(x, 1, 1, NOT, NOT);
+            due("nobody goes, and no answer is a POST", x.which(21), 0);
             fill(x, 1, 1);
             due("nobody goes, nothing is on it", x.which(21), 3);
         });
@@ -255,6 +257,11 @@ final class EdgesOfPapers extends Edges {
             due("in one cell", same.fit(0, -1), 2);
             fill(same, 0, 1, 1, 0, 1, 1);
             due("a POST twice", same.fit(0, -1), 0);
+            int[] none = {3, 9, -1, 256};
+            for (int p : none) {
+                fill(same, 0, 1, p, 0);
+                due("no POST " + p, same.fit(0, -1), 0);
+            }
             fill(same, 0, 1, 2, 0, 0, 1, 1, 2, 2, 3);
             due("round to the first again", same.fit(0, -1), 1);
         });

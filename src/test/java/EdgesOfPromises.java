@@ -74,7 +74,7 @@ final class EdgesOfPromises extends Edges {
             NineKeysRound x = yard(0, 0);
             allBad("no such post", x.mend(2, 0, 1), x.mend(-1, 1, 1), x.mend(9, 2, 1), x.mend(TOO_GREAT, 3, 1));
             allBad("number 0 for these", x.mend(1, 4, 1), x.mend(1, 5, 1), x.mend(1, 6, 2), x.mend(1, 7, 2), x.mend(-1, 7, 2));
-            allBad("no such number", x.mend(0, -1, 1), x.mend(0, 8, 1), x.mend(0, TOO_SMALL, 1));
+            allBad("no such number", x.mend(0, -1, 1), x.mend(1, -1, 1), x.mend(0, 8, 1), x.mend(0, TOO_SMALL, 1));
             due("the last post", x.mend(1, 0, 7), 0);
             due("what it was", x.mend(1, 0, 8), 7);
             NineKeysRound none = new NineKeysRound();
@@ -85,7 +85,7 @@ final class EdgesOfPromises extends Edges {
             for (int i = 0; i < 3; i++) x.walk(1);
             due("three", x.of(1, 8), 3);
             due("none", x.of(0, 8), 0);
-            allBad("of", x.of(2, 8), x.of(-1, 8), x.of(2, 0), x.of(-1, 3), x.of(1, 4), x.of(1, 7), x.of(0, 9), x.of(0, -1), x.of(TOO_GREAT, 0));
+            allBad("of", x.of(2, 8), x.of(-1, 8), x.of(2, 0), x.of(-1, 3), x.of(1, 4), x.of(1, 7), x.of(0, 9), x.of(0, -1), x.of(1, -1), x.of(1, -4), x.of(TOO_GREAT, 0));
         });
     }
 

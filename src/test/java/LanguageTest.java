@@ -35,7 +35,9 @@ public final class LanguageTest {
         Class<?>[] inside = NineKeysRound.class.getDeclaredClasses();
         for (Class<?> c : inside) {
             if (!Modifier.isStatic(c.getModifiers())) fault(2, c + " is not static");
+            if (Modifier.isPublic(c.getModifiers()) || Modifier.isProtected(c.getModifiers())) fault(1, c + " is part of the face");
             checkMembers(c);
+            checkNames(c);
         }
         if (inside.length > 12) fault(11, "more than twelve classes");
         String code = Files.readString(SOURCE).replaceAll("(?s)/\\*.*?\\*/", " ").replaceAll("//[^\n]*", "");
@@ -81,6 +83,13 @@ public final class LanguageTest {
         }
         if (fields > 20) fault(11, c + " has " + fields + " fields");
         for (Method m : c.getDeclaredMethods()) if (m.getParameterCount() > 7) fault(11, m + " takes too many parameters");
+    }
+
+    /** The rule speaks of private methods; none of any class inside shares a name with the face, to be sure. */
+    private static void checkNames(Class<?> c) {
+        for (Method m : c.getDeclaredMethods()) {
+            for (String call : FACE) if (call.contains(" " + m.getName() + "(")) fault(1, m + " bears a public name");
+        }
     }
 
     private static void checkWords(String code) {

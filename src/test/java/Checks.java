@@ -1,3 +1,5 @@
+import java.util.Arrays;
+
 /** What the tests share: yards to begin with, and answers held against those that are due. */
 abstract class Checks {
     static final int BAD = -1, NOT = -2, FULL = -3, STATE = -5;
@@ -64,6 +66,16 @@ abstract class Checks {
     static int law(NineKeysRound x, String text) {
         for (int i = 0; i < text.length(); i++) x.feed(text.charAt(i));
         return x.law();
+    }
+
+    /** All four answers of paper() for a paper of these elements. */
+    static void paperDue(NineKeysRound x, int possible, int slept, int where, int forged, int... elements) {
+        fill(x, 3, 1, elements);
+        String row = Arrays.toString(elements);
+        due("POSSIBLE " + row, x.paper(3, 0), possible);
+        due("SLEPT " + row, x.paper(3, 1), slept);
+        due("where most " + row, x.paper(3, 2), where);
+        due("FORGED " + row, x.paper(3, 3), forged);
     }
 
     static void waitTill(NineKeysRound x, int now) {

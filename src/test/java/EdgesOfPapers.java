@@ -110,15 +110,6 @@ final class EdgesOfPapers extends Edges {
         });
     }
 
-    private static void paperDue(NineKeysRound x, int possible, int slept, int where, int forged, int... elements) {
-        fill(x, 3, 1, elements);
-        String row = Arrays.toString(elements);
-        due("POSSIBLE " + row, x.paper(3, 0), possible);
-        due("SLEPT " + row, x.paper(3, 1), slept);
-        due("where most " + row, x.paper(3, 2), where);
-        due("FORGED " + row, x.paper(3, 3), forged);
-    }
-
     private static void possible() {
         edge("part 3", "the first two that cannot be, as he would have had to come there sooner than by PACE, STAND from the one ahead", () -> {
             NineKeysRound x = three();

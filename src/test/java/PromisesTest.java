@@ -698,15 +698,6 @@ public final class PromisesTest extends Checks {
         allBad("mix", x.mix(0, 3, 1), x.mix(0, -1, 1), x.mix(0, 0, 0), x.mix(0, 0, 100), x.mix(6, 0, 1));
     }
 
-    private static void paperDue(NineKeysRound x, int possible, int slept, int where, int forged, int... elements) {
-        fill(x, 3, 1, elements);
-        String row = java.util.Arrays.toString(elements);
-        due("POSSIBLE " + row, x.paper(3, 0), possible);
-        due("SLEPT " + row, x.paper(3, 1), slept);
-        due("where most " + row, x.paper(3, 2), where);
-        due("FORGED " + row, x.paper(3, 3), forged);
-    }
-
     private static void paper() {
         promise = "24 paper";
         NineKeysRound x = three();

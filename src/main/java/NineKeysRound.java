@@ -962,7 +962,7 @@ public final class NineKeysRound {
                 return false;
             }
             done--;
-            told[place[done]] = was[done];
+            lay(told, place[done], was[done]);
             return true;
         }
 
@@ -970,9 +970,15 @@ public final class NineKeysRound {
             if (done >= size) {
                 return false;
             }
-            told[place[done]] = became[done];
+            lay(told, place[done], became[done]);
             done++;
             return true;
+        }
+
+        private static void lay(int[] told, int where, int v) {
+            if (where >= 0 && where < told.length) {
+                told[where] = v;
+            }
         }
     }
 
@@ -1768,7 +1774,7 @@ public final class NineKeysRound {
         }
 
         private int runBody(int body, int above, int x, int depth) {
-            int own = kinds[number];
+            int own = kindOf(number);
             switch (body) {
                 case 1:
                     return x + number;
